@@ -26,8 +26,6 @@ public final class SquareCuts {
     private static final int NET = 1;
     private static final int MADE = 2;
 
-    private final byte[] tape;
-    private int tapeLength;
     private final Reader reader;
     private final GroupLayer groupLayer;
     private final NetSolver solver;
@@ -42,8 +40,7 @@ public final class SquareCuts {
     private int undoable;
 
     public SquareCuts() {
-        tape = new byte[TAPE_BYTES];
-        reader = new Reader(tape);
+        reader = new Reader();
         groupLayer = new GroupLayer();
         solver = new NetSolver();
         netLayer = new NetLayer();
@@ -57,22 +54,21 @@ public final class SquareCuts {
     }
 
     public int feed(int a, int b, int c, int d, int e) {
-        if (tapeLength + FEED_BYTES > TAPE_BYTES) {
+        if (reader.fed + FEED_BYTES > TAPE_BYTES) {
             return NONE;
         }
-        putFourBytes(a);
-        putFourBytes(b);
-        putFourBytes(c);
-        putFourBytes(d);
-        putFourBytes(e);
-        return tapeLength;
+        reader.takeFourBytes(a);
+        reader.takeFourBytes(b);
+        reader.takeFourBytes(c);
+        reader.takeFourBytes(d);
+        reader.takeFourBytes(e);
+        return reader.fed;
     }
 
     public int text(int n) {
-        if (n < 0 || n > tapeLength) {
+        if (n < 0 || n > reader.fed) {
             return NONE;
         }
-        tapeLength = 0;
         int fault = reader.read(n);
         if (fault != Reader.NO_FAULT) {
             return -2 - fault;
@@ -382,20 +378,11 @@ public final class SquareCuts {
             case 3:
                 return undoable;
             case 4:
-                return tapeLength;
+                return reader.fed;
             case 5:
                 return page.length;
             default:
                 return NONE;
-        }
-    }
-
-    private void putFourBytes(int number) {
-        for (int shift = 24; shift >= 0; shift -= 8) {
-            if (tapeLength < TAPE_BYTES) {
-                tape[tapeLength] = (byte) (number >> shift);
-                tapeLength++;
-            }
         }
     }
 
@@ -452,7 +439,7 @@ public final class SquareCuts {
         return big;
     }
 
-    /** Reads a text token by token, and holds what its lines tell till the next one is read. */
+    /** Holds the tape, reads it token by token, and keeps what the lines tell till the next text is read. */
     private static final class Reader {
         static final int NO_FAULT = 0;
 
@@ -477,7 +464,7 @@ public final class SquareCuts {
         private static final long WORD_DRAWN = 0x647261776EL;
         private static final long WORD_NET = 0x6E6574L;
 
-        private final byte[] bytes;
+        private final byte[] tape = new byte[TAPE_BYTES];
         private int length;
         private int place;
         private int token;
@@ -485,19 +472,24 @@ public final class SquareCuts {
         private long value;
         private final long[] names = new long[MAX_TOLD];
 
+        int fed;
         int told;
         final boolean[] drawn = new boolean[MAX_TOLD];
         final int[] given = new int[MAX_TOLD];
         final int[][] numbers = new int[MAX_TOLD][MAX_NUMBERS];
         final int[][] groupOf = new int[MAX_TOLD][MAX_NUMBERS];
 
-        Reader(byte[] bytes) {
-            this.bytes = bytes;
+        void takeFourBytes(int number) {
+            for (int shift = 24; shift >= 0 && fed < TAPE_BYTES; shift -= 8) {
+                tape[fed] = (byte) (number >> shift);
+                fed++;
+            }
         }
 
-        /** NO_FAULT, or 8 times the place of the fault and its kind. */
+        /** Takes the first n bytes and empties the tape: NO_FAULT, or 8 times the fault's place and its kind. */
         int read(int n) {
-            length = Math.min(n, bytes.length);
+            length = Math.min(n, fed);
+            fed = 0;
             place = 0;
             told = 0;
             nextToken();
@@ -568,7 +560,8 @@ public final class SquareCuts {
                     return faultOf(TOO_MANY);
                 }
                 groupOf[told][given[told]] = group;
-                takeValue();
+                holdValue();
+                nextToken();
             }
             if (token != CLOSE) {
                 return faultOf(NO_TEXT);
@@ -585,7 +578,8 @@ public final class SquareCuts {
                 return faultOf(WRONG_NUMBER);
             }
             long points = value;
-            takeValue();
+            holdValue();
+            nextToken();
             for (int wire = 0; wire <= MAX_WIRES && token == NUMBER; wire++) {
                 int fault = readWire(wire, points);
                 if (fault != NO_FAULT) {
@@ -603,24 +597,25 @@ public final class SquareCuts {
             if (wire >= MAX_WIRES) {
                 return faultOf(TOO_MANY);
             }
-            takeValue();
+            holdValue();
+            nextToken();
             if (token != NUMBER) {
                 return faultOf(NO_TEXT);
             }
             if (value >= points || value == first) {
                 return faultOf(WRONG_NUMBER);
             }
-            takeValue();
+            holdValue();
+            nextToken();
             return NO_FAULT;
         }
 
-        private void takeValue() {
+        private void holdValue() {
             int index = given[told];
             if (index < MAX_NUMBERS) {
                 numbers[told][index] = (int) value;
                 given[told]++;
             }
-            nextToken();
         }
 
         private boolean isNameThere() {
@@ -641,40 +636,34 @@ public final class SquareCuts {
         }
 
         private void nextToken() {
-            while (place < length && (bytes[place] == ' ' || bytes[place] == '\n')) {
+            while (place < length && (tape[place] == ' ' || tape[place] == '\n')) {
                 place++;
             }
             start = place;
             value = 0;
-            if (place >= length) {
-                token = END;
-            } else if (isLetter(bytes[place])) {
-                readWord();
-            } else if (isDigit(bytes[place])) {
-                readNumber();
+            token = place < length ? tokenBegunBy(tape[place]) : END;
+            if (token == WORD) {
+                for (; place < length && tokenBegunBy(tape[place]) == WORD; place++) {
+                    value = (value << 8) + tape[place];
+                }
+                token = place - start <= MAX_WORD ? WORD : NO_TOKEN;
+            } else if (token == NUMBER) {
+                for (; place < length && tokenBegunBy(tape[place]) == NUMBER; place++) {
+                    value = 10 * value + tape[place] - '0';
+                }
+                token = place - start <= MAX_DIGITS ? NUMBER : NO_TOKEN;
             } else {
-                token = signToken(bytes[place]);
                 place++;
             }
         }
 
-        private void readWord() {
-            while (place < length && isLetter(bytes[place])) {
-                value = (value << 8) + bytes[place];
-                place++;
+        private static int tokenBegunBy(byte sign) {
+            if (sign >= 'a' && sign <= 'z') {
+                return WORD;
             }
-            token = place - start <= MAX_WORD ? WORD : NO_TOKEN;
-        }
-
-        private void readNumber() {
-            while (place < length && isDigit(bytes[place])) {
-                value = 10 * value + bytes[place] - '0';
-                place++;
+            if (sign >= '0' && sign <= '9') {
+                return NUMBER;
             }
-            token = place - start <= MAX_DIGITS ? NUMBER : NO_TOKEN;
-        }
-
-        private static int signToken(byte sign) {
             switch (sign) {
                 case '(':
                     return OPEN;
@@ -685,14 +674,6 @@ public final class SquareCuts {
                 default:
                     return NO_TOKEN;
             }
-        }
-
-        private static boolean isLetter(byte sign) {
-            return sign >= 'a' && sign <= 'z';
-        }
-
-        private static boolean isDigit(byte sign) {
-            return sign >= '0' && sign <= '9';
         }
     }
 
@@ -844,7 +825,7 @@ public final class SquareCuts {
 
         /** The numbers: how many points, then two for each wire. */
         Net solve(int[] numbers, int given) {
-            int points = Math.max(0, Math.min(numbers[0], MAX_POINTS));
+            int points = Math.max(2, Math.min(numbers[0], MAX_POINTS));
             int wires = Math.max(0, Math.min((given - 1) / 2, MAX_WIRES));
             for (int i = 0; i < wires; i++) {
                 from[i] = numbers[1 + 2 * i];
@@ -1419,7 +1400,8 @@ public final class SquareCuts {
         int failing() {
             int found = 0;
             for (int i = 0; i < held; i++) {
-                found += places[i].fails ? 1 : 0;
+                Tiling tiling = places[i];
+                found += tiling != null && tiling.fails ? 1 : 0;
             }
             return found;
         }
@@ -1427,7 +1409,8 @@ public final class SquareCuts {
         int perfectOnes() {
             int found = 0;
             for (int i = 0; i < held; i++) {
-                found += places[i].isPerfect() ? 1 : 0;
+                Tiling tiling = places[i];
+                found += tiling != null && tiling.isPerfect() ? 1 : 0;
             }
             return found;
         }
