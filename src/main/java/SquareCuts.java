@@ -652,7 +652,7 @@ public final class SquareCuts {
                     value = 10 * value + tape[place] - '0';
                 }
                 token = place - start <= MAX_DIGITS ? NUMBER : NO_TOKEN;
-            } else {
+            } else if (token != END) {
                 place++;
             }
         }
@@ -716,22 +716,35 @@ public final class SquareCuts {
             return depth[notch];
         }
 
+        /** Lays a square, no wider than the notch, to its left end. */
         void lay(int size) {
-            if (size < notchWidth()) {
-                if (pieces >= end.length) {
-                    return;
-                }
-                int newEnd = notchLeft() + size;
-                for (int i = pieces; i > notch; i--) {
-                    end[i] = end[i - 1];
-                    depth[i] = depth[i - 1];
-                }
-                pieces++;
-                end[notch] = newEnd;
+            int newEnd = notchLeft() + size;
+            if (newEnd < end[notch]) {
+                splitNotch(newEnd, depth[notch] + size);
+            } else {
+                depth[notch] += size;
+                mergePieces();
+                findNotch();
             }
-            depth[notch] += size;
-            mergePieces();
-            findNotch();
+        }
+
+        /** What is left of the notch is the notch still: nothing of its depth is ahead of it. */
+        private void splitNotch(int newEnd, int newDepth) {
+            if (notch > 0 && depth[notch - 1] == newDepth) {
+                end[notch - 1] = newEnd;
+                return;
+            }
+            if (pieces >= end.length) {
+                return;
+            }
+            for (int i = pieces; i > notch; i--) {
+                end[i] = end[i - 1];
+                depth[i] = depth[i - 1];
+            }
+            pieces++;
+            end[notch] = newEnd;
+            depth[notch] = newDepth;
+            notch++;
         }
 
         private void mergePieces() {

@@ -96,6 +96,9 @@ public final class StateTest {
         for (int what = 0; what < due.length; what++) {
             CHECK.due("count(" + what + ")", cuts.count(what), due[what]);
         }
+        SquareCuts other = Check.told("drawn c (18 15)(7 8)(14 4)(10 1)(9);");
+        CHECK.due("the only one is PERFECT", other.count(2), 1);
+        CHECK.due("none FAILS", other.count(1), 0);
         CHECK.due("count(6)", cuts.count(6), -1);
         CHECK.due("count(-1)", cuts.count(-1), -1);
         CHECK.due("count of the least int", cuts.count(Integer.MIN_VALUE), -1);

@@ -55,6 +55,12 @@ public final class TextTest {
         CHECK.due("WIDE of it", cuts.rect(0, 1), 1);
         Check.put(cuts, "drawn a (1);");
         CHECK.due("text(0) takes the tape too", cuts.text(0), 0);
+        Check.put(cuts, "net abcdefg 2;");
+        CHECK.due("a word that n cuts", cuts.text(10), Check.fault(10, 1));
+        Check.put(cuts, "net a 2 0 1;net a 2;");
+        CHECK.due("a number that n cuts", cuts.text(11), Check.fault(11, 1));
+        Check.put(cuts, "net a 22;");
+        CHECK.due("a number that n cuts is shorter", cuts.text(7), Check.fault(7, 1));
         CHECK.due("nothing on it", cuts.count(4), 0);
         CHECK.due("no rectangles", cuts.count(0), 0);
         String full = "net a 2;".repeat(1) + " ".repeat(592);
@@ -81,7 +87,9 @@ public final class TextTest {
         CHECK.due("a number of 20 digits", answer("drawn a (11111111111111111111);"), Check.fault(9, 1));
         CHECK.due("9999", answer("drawn a (9999);"), 1);
         CHECK.due("10000", answer("drawn a (10000);"), Check.fault(9, 1));
-        CHECK.due("{ before a", answer("`"), Check.fault(0, 1));
+        CHECK.due("the first and the last letter", answer("net az 2;"), 1);
+        CHECK.due("the first and the last digit", answer("drawn a (90)(90);"), 1);
+        CHECK.due("` before a", answer("`"), Check.fault(0, 1));
         CHECK.due("{ behind z", answer("{"), Check.fault(0, 1));
         CHECK.due("/ before 0", answer("drawn a (/);"), Check.fault(9, 1));
         CHECK.due(": behind 9", answer("drawn a (:);"), Check.fault(9, 1));
