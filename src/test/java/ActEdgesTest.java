@@ -395,9 +395,15 @@ public final class ActEdgesTest {
             CHECK.due("below: HIGH", cuts.rect(made, 2), wide[i] + high[i]);
             CHECK.due("below: WIDE", cuts.rect(made, 1), wide[i]);
             CHECK.due("below: the last SIZE", cuts.square(made, last, 2), wide[i]);
+            CHECK.due("below: its x", cuts.square(made, last, 0), 0);
+            CHECK.due("below: its y", cuts.square(made, last, 1), high[i]);
             made = cuts.grow(i, false);
             CHECK.due("to the right: WIDE", cuts.rect(made, 1), wide[i] + high[i]);
             CHECK.due("to the right: HIGH", cuts.rect(made, 2), high[i]);
+            int beside = i == 1 ? 2 : 1;
+            CHECK.due("to the right: its SIZE", cuts.square(made, beside, 2), high[i]);
+            CHECK.due("to the right: its x", cuts.square(made, beside, 0), wide[i]);
+            CHECK.due("to the right: its y", cuts.square(made, beside, 1), 0);
         }
     }
 

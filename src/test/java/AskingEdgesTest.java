@@ -41,6 +41,7 @@ public final class AskingEdgesTest {
         sideOfOthers();
         alikeOfOthers();
         alikeOnes();
+        unlikeOnes();
         CHECK.end();
     }
 
@@ -333,6 +334,11 @@ public final class AskingEdgesTest {
             CHECK.due("turn " + turn, cuts.turn(0, turn), 6);
             CHECK.due("alike by turn " + turn, cuts.alike(0, 6), 1);
             CHECK.due("alike by turn " + turn + ", mirrored", cuts.alike(6, 5), 1);
+            CHECK.due("7 times as large", cuts.times(6, 7), 7);
+            CHECK.due("alike by turn " + turn + ", times as large", cuts.alike(0, 7), 1);
+            CHECK.due("alike by turn " + turn + ", parts as large", cuts.alike(7, 0), 1);
+            CHECK.due("another one", cuts.alike(7, 2), 0);
+            cuts.undo();
             cuts.undo();
         }
         CHECK.due("4999 times", cuts.alike(1, 2), 1);
@@ -344,5 +350,18 @@ public final class AskingEdgesTest {
         large.times(3, 25);
         CHECK.due("1 and a thousand million", large.alike(1, 4), 1);
         CHECK.due("one and two squares", large.alike(1, 2), 0);
+    }
+
+    /** As many squares each, and of the first two pairs the same sizes and sides too. */
+    private static void unlikeOnes() {
+        String[] ones = {"(1 2 1)(1)(1)", "(3 2 1)(1)(1 1 1)", "(1 1 1 1)", "(1 1 1)(3)", "(1)", "(2 1)(1)"};
+        String[] others = {"(2 1 1)(1 1)", "(3 1 2)(1)(1 1 1)", "(1 1)(1 1)", "(1 1)(1 1)", "(1)", "(1 2)(1)"};
+        int[] due = {0, 0, 0, 0, 1, 1};
+        for (int i = 0; i < ones.length; i++) {
+            SquareCuts cuts = Check.told("drawn a " + ones[i] + ";drawn b " + others[i] + ";");
+            CHECK.due(ones[i] + ": SQUARES", cuts.rect(0, 0), cuts.rect(1, 0));
+            CHECK.due("alike " + ones[i] + " " + others[i], cuts.alike(0, 1), due[i]);
+            CHECK.due("alike " + others[i] + " " + ones[i], cuts.alike(1, 0), due[i]);
+        }
     }
 }

@@ -143,6 +143,13 @@ public final class LayingEdgesTest {
             CHECK.due("current of " + i, cuts.current(i, 0), trees[i] == 0 ? NO : 1);
         }
         CHECK.due("three FAIL", cuts.count(1), 3);
+        // A net without wires has none of those that stood in its place in the text before.
+        SquareCuts again = Check.told("net a 2 0 1;");
+        CHECK.due("one wire", again.trees(0), 1);
+        Check.tell(again, "net a 2;");
+        CHECK.due("no wire", again.trees(0), 0);
+        CHECK.due("no current", again.current(0, 0), NO);
+        CHECK.due("it FAILS", again.rect(0, 0), -2);
     }
 
     private static void likeWiresCountEach() {
@@ -196,6 +203,8 @@ public final class LayingEdgesTest {
             int asked = i;
             CHECK.noSuch("no square more of " + i, () -> cuts.square(asked, squares[asked], 2));
         }
+        CHECK.due("its code has none of it", Check.printed(cuts, 0), "(1 1)(1 1)");
+        CHECK.due("its code has none of it", Check.printed(cuts, 1), "(1)");
         CHECK.due("the level where nothing flows", cuts.level(1, 1), 1);
         CHECK.due("the level where nothing flows", cuts.level(1, 2), 0);
     }
@@ -319,6 +328,8 @@ public final class LayingEdgesTest {
         what("(2 2)(4)", 6, 0);
         what("(1 1 1)(1 1 1)", 6, 2);
         what("(1 1)(1 1)(1 1)", 6, 2);
+        what("(1 1 1 1)", 6, 0);
+        what("(1)(1)(1)(1)", 6, 0);
     }
 
     private static void linesThatTouch() {

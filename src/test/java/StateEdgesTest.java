@@ -23,6 +23,7 @@ public final class StateEdgesTest {
         backLeavesAllElse();
         countOfOthers();
         countFromEmptyToFull();
+        the512thCall();
         CHECK.end();
     }
 
@@ -311,5 +312,16 @@ public final class StateEdgesTest {
         SquareCuts failing = Check.told("net a 2;net b 2;net c 2;drawn d (2 1);drawn e (2 1);drawn f (2 1);");
         CHECK.due("all FAIL", failing.count(1), 6);
         CHECK.due("none is PERFECT", failing.count(2), 0);
+    }
+
+    private static void the512thCall() {
+        SquareCuts cuts = new SquareCuts();
+        cuts.feed(Check.four("draw", 0), Check.four("n a ", 0), Check.four("(2 1", 0), Check.four(")(1)", 0),
+            Check.four(";   ", 0));
+        cuts.text(20);
+        for (int call = 3; call <= 511; call += 2) {
+            CHECK.due("call " + call, cuts.grow(0, true), 1);
+            CHECK.due("call " + (call + 1), call == 511 ? cuts.area(1) : cuts.undo(), call == 511 ? 15 : 0);
+        }
     }
 }

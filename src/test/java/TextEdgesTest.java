@@ -128,6 +128,17 @@ public final class TextEdgesTest {
         }
         Check.put(cuts, text.substring(0, 40));
         CHECK.due("the bytes without the last one", cuts.text(35), Check.fault(35, 1));
+        // What stands behind the first n bytes makes no word or number longer.
+        Check.put(cuts, "net a 22;");
+        CHECK.due("a number that n cuts", cuts.text(7), Check.fault(7, 1));
+        Check.put(cuts, "net a 2;net abcdefg 2;");
+        CHECK.due("a word that n cuts", cuts.text(18), Check.fault(18, 1));
+        Check.put(cuts, " ".repeat(593) + "net a 2");
+        CHECK.due("a number that ends with a full tape", cuts.text(600), Check.fault(600, 1));
+        Check.put(cuts, " ".repeat(597) + "net");
+        CHECK.due("a word that ends with a full tape", cuts.text(600), Check.fault(600, 1));
+        Check.put(cuts, "drawn a (22)(22);   ");
+        CHECK.due("bytes of the tape before are gone", cuts.text(17), 1);
     }
 
     private static void textOfTooManyOrBelowZero() {
